@@ -18,6 +18,7 @@ final class Model {
 
     /** A step that fails, with what it returns and why; the reason is for counting only. */
     private static final class Failed extends RuntimeException {
+        private static final long serialVersionUID = 1;
         final int code;
         final String why;
 
