@@ -995,6 +995,7 @@ public final class TableLearner {
         private int addSplit(long example, Teacher teacher) {
             int low = 0;
             int high = Words.lengthOf(example);
+            // The first prefix is the empty word, so question(0) is the example itself.
             int first = askAbout(example, teacher);
             if (first == OUT) {
                 return OUT;
