@@ -97,6 +97,10 @@ final class Model {
     String why = "";
     private String phase = "";
 
+    String text() {
+        return text;
+    }
+
     private int states() {
         return all.machine.finals.length;
     }
