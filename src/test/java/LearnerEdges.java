@@ -6,6 +6,7 @@ public final class LearnerEdges {
     public static void main(String[] args) {
         beginBounds();
         beginForgets();
+        beginFreesRoom();
         noBudget();
         smallBudget();
         greatestBudget();
@@ -79,6 +80,38 @@ public final class LearnerEdges {
         x.steps(1, 1, 1, 4);
     }
 
+    private static void beginFreesRoom() {
+        Tested.sentence("12: the table has room again as at first");
+        for (int before = 0; before <= 2; before++) {
+            for (int after = 0; after <= 2; after++) {
+                Tested x = Tested.cycle(6, 0).lies(Tested.as(7));
+                x.begin(after, 300);
+                int did = x.learn(1000);
+                long end = x.digest();
+                x.lies(Tested.as(7), Tested.as(12));
+                x.begin(before, 300);
+                x.learn(1000);
+                x.lies(Tested.as(7), Tested.as(12));
+                x.begin(after, 300);
+                due(x.learn(1000), did);
+                due(x.digest(), end);
+            }
+        }
+        // The longest prefix has ten letters before, and the longest suffix seven after.
+        Tested y = Tested.machine(2, "00110111", "65", "44", "34", "02", "63", "74", "70", "15")
+                .lies("aaaabbbbba", "babbaab");
+        y.begin(1, 300);
+        due(y.learn(1000), Tested.FULL);
+        y.reset(8, 1);
+        for (int s = 0; s < 8; s++) {
+            y.setMove(s, 0, (s + 1) % 8);
+        }
+        y.setFinal(7, true);
+        y.begin(2, 300);
+        due(y.learn(1000), 6);
+        due(y.word(true, y.count(8) - 1, NONE), 7);
+    }
+
     private static void noBudget() {
         Tested.sentence("13: no question is possible with the budget 0");
         Tested x = new Tested();
@@ -127,7 +160,8 @@ public final class LearnerEdges {
         x.text("bbbbbbbbbbbbbbbb");
         still(x, x.ask(), OUT);
         x.text("");
-        still(x, x.ask(), x.cell(0, NONE, 0));
+        int known = x.cell(0, NONE, 0);
+        still(x, x.ask(), known);
         Tested.sentence("13: with the budget 299 the 300th is not");
         Tested y = manyQuestions();
         y.begin(0, 299);
@@ -304,30 +338,26 @@ public final class LearnerEdges {
         x.isWord(false, 3, "abc");
         due(x.count(8), 1);
         x.isCounterexample("abc");
-        // Here a, which is a prefix already, is not put in once more.
-        Tested y = Tested.machine(2, "0100", "10", "20", "30", "33").lies("aaab");
-        y.begin(0, 300);
+        Tested.sentence("13, mode 0: a word that is a prefix already is not put in once more");
+        Tested y = Tested.machine(2, "01111111", "36", "55", "34", "20", "21", "47", "56", "51");
         y.steps(1, 1, 1, 2);
-        due(y.count(7), 2);
-        due(y.learn(1000) >= 6 ? 1 : 0, 1);
-        for (int k = 0; k < y.count(7); k++) {
-            for (int j = 0; j < k; j++) {
-                due(sameWord(y, j, k) ? 1 : 0, 0);
-            }
-        }
-    }
-
-    private static boolean sameWord(Tested x, int j, int k) {
-        int length = x.word(false, j, NONE);
-        if (length != x.word(false, k, NONE)) {
-            return false;
-        }
-        for (int i = 0; i < length; i++) {
-            if (x.word(false, j, i) != x.word(false, k, i)) {
-                return false;
-            }
-        }
-        return true;
+        y.isWord(false, 1, "a");
+        y.steps(1, 1, 4, 5);
+        y.isCounterexample("bb");
+        due(y.count(7), 4);
+        y.isWord(false, 2, "b");
+        y.isWord(false, 3, "bb");
+        y.steps(1, 1, 1, 1, 3, 1, 1, 1, 1, 1, 4, 5);
+        y.isCounterexample("aaab");
+        due(y.count(7), 7);
+        y.isWord(false, 4, "aa");
+        y.isWord(false, 5, "aaa");
+        y.isWord(false, 6, "aaab");
+        Tested.sentence("13, mode 0: 7 if all of them are prefixes");
+        Tested z = new Tested().lies("a");
+        z.steps(1, 1, 1, 2, 1, 1, 4, 7);
+        z.isCounterexample("a");
+        due(z.count(7), 2);
     }
 
     private static void shortSplits() {
@@ -416,6 +446,16 @@ public final class LearnerEdges {
         x.isWord(true, 2, "bc");
         x.isWord(true, 3, "abc");
         x.isCounterexample("abc");
+        Tested.sentence("13, mode 2: a word that is a suffix already is not put in once more");
+        Tested z = Tested.machine(2, "1100101", "54", "60", "55", "35", "23", "40", "63")
+                .lies("bbabaa", "bbaaba");
+        z.begin(2, 300);
+        String[] suffixes = {"", "b", "bb", "a", "aa", "baa", "bbaa", "abaa", "babaa", "bbabaa"};
+        due(z.learn(1000) != 6 ? 1 : 0, 1);
+        for (int k = 0; k < suffixes.length; k++) {
+            z.isWord(true, k, suffixes[k]);
+        }
+        Tested.sentence("13, mode 2: 7 if all of them are suffixes");
         // A lie that is noticed only at the second counterexample: a is a suffix then.
         Tested y = new Tested().lies("a");
         y.begin(2, 200);

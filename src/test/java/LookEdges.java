@@ -20,6 +20,8 @@ public final class LookEdges {
         saveBounds();
         restoreBounds();
         restoreAll();
+        restoreLies();
+        restoreCourse();
         countBounds();
         countCorrections();
         digestParts();
@@ -380,7 +382,8 @@ public final class LookEdges {
         x.save(0);
         still(x, x.restore(1), STATE);
         still(x, x.restore(2), BAD);
-        still(x, x.restore(0), x.count(6));
+        int asked = x.count(6);
+        still(x, x.restore(0), asked);
         Tested y = Tested.threeAs();
         y.save(1);
         y.step();
@@ -421,6 +424,90 @@ public final class LookEdges {
         due(x.lie(), 1);
         due(x.restore(1), 92);
         due(x.count(3), 2);
+    }
+
+    private static void restoreLies() {
+        Tested.sentence("23: the lies that were saved, and no others");
+        Tested x = new Tested().lies("a", "b");
+        x.save(0);
+        x.lies("a", "b");
+        due(x.count(3), 0);
+        due(x.save(1), 0);
+        x.lies("ab", "ba", "bb", "aa");
+        due(x.count(3), 4);
+        lied(x, 0, 2, "a", "b");
+        lied(x, 1, 0);
+        x.text("a");
+        due(x.lie(), 1);
+        lied(x, 0, 2, "a", "b");
+        x.lies("ab", "ba");
+        due(x.count(3), 4);
+        x.text("bb");
+        still(x, x.lie(), Tested.FULL);
+        x.save(1);
+        lied(x, 0, 2, "a", "b");
+        lied(x, 1, 4, "a", "b", "ab", "ba");
+    }
+
+    /** Restores the slot; just these words are lies then, of all with one letter or two. */
+    private static void lied(Tested x, int slot, int number, String... lies) {
+        due(x.restore(slot) >= 0 ? 1 : 0, 1);
+        due(x.count(3), number);
+        for (String word : new String[] {"a", "b", "aa", "ab", "ba", "bb"}) {
+            x.text(word);
+            due(x.ask(), java.util.List.of(lies).contains(word) ? 1 : 0);
+        }
+        x.restore(slot);
+    }
+
+    private static void restoreCourse() {
+        Tested.sentence("23: where the learner was on its way");
+        Tested x = Tested.threeAs();
+        x.learn(3);
+        due(x.save(0), 3);
+        x.steps(4);
+        due(x.save(1), 3);
+        x.steps(5);
+        due(x.restore(0), 3);
+        x.steps(4);
+        due(x.restore(1), 3);
+        x.steps(5, 1);
+        due(x.restore(1), 3);
+        x.steps(5);
+        due(x.save(0), 3);
+        x.begin(0, 200);
+        due(x.restore(0), 3);
+        x.isCounterexample("aaa");
+        x.steps(1, 1, 1, 1, 1, 1, 3);
+        Tested.sentence("23: the representatives");
+        Tested y = Tested.machine(2, "10000001", "14", "25", "36", "07", "50", "61", "72", "43");
+        y.begin(0, 300);
+        due(y.learn(1000), 6);
+        int[] kept = new int[8];
+        for (int s = 0; s < 8; s++) {
+            kept[s] = y.hypothesis(s, 4);
+        }
+        y.save(1);
+        y.begin(1, 300);
+        due(y.learn(1000), 6);
+        due(y.hypothesis(7, 4), 7);
+        due(y.restore(1), 77);
+        for (int s = 0; s < 8; s++) {
+            due(y.hypothesis(s, 4), kept[s]);
+        }
+        due(kept[7] > 7 ? 1 : 0, 1);
+        Tested.sentence("23: that a lie was noticed");
+        Tested z = new Tested().lies("b");
+        due(z.learn(1000), 7);
+        z.save(0);
+        z.begin(0, 200);
+        z.save(1);
+        z.restore(0);
+        due(z.count(11), 1);
+        still(z, z.step(), 7);
+        z.restore(1);
+        due(z.count(11), 0);
+        z.steps(1);
     }
 
     private static void countBounds() {
@@ -506,14 +593,16 @@ public final class LookEdges {
     private static void digestParts() {
         Tested.sentence("25: nothing asked, no hypothesis, no counterexample, no text");
         Tested x = new Tested();
-        still(x, x.digest(), folded(x, ""));
+        long first = folded(x, "");
+        still(x, x.digest(), first);
         Tested.sentence("25: in every stage, with answers that are not known yet");
         for (int mode = 0; mode <= 2; mode++) {
             for (int stop = 1; stop <= 27; stop += 2) {
                 Tested y = Tested.threeAs();
                 y.begin(mode, 200);
                 y.learn(stop);
-                still(y, y.digest(), folded(y, ""));
+                long want = folded(y, "");
+                due(y.digest(), want);
             }
         }
         Tested.sentence("25: the bytes of the text, from 0 to 127");

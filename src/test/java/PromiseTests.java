@@ -1,81 +1,61 @@
-import java.util.function.IntSupplier;
-
 /** For each promise of the document its ordinary inputs, its edges and wrong inputs. */
 public final class PromiseTests {
     private static final int BAD = -2, STATE = -3, OUT = -4, FULL = -5, NONE = -1;
     private static final int MIN = Integer.MIN_VALUE, MAX = Integer.MAX_VALUE;
 
-    private static int wrong = 0;
-    private static int promise = 0;
-
     public static void main(String[] args) {
-        promise = 1; newObject();
-        promise = 2; reset();
-        promise = 3; setMove();
-        promise = 4; setFinal();
-        promise = 5; lie();
-        promise = 6; state();
-        promise = 7; distinguish();
-        promise = 8; leastStates();
-        promise = 9; accepts();
-        promise = 10; type();
-        promise = 11; clearText();
-        promise = 12; begin();
-        promise = 13; step();
-        promise = 14; learn();
-        promise = 15; ask();
-        promise = 16; word();
-        promise = 17; cell();
-        promise = 18; hypothesis();
-        promise = 19; guess();
-        promise = 20; difference();
-        promise = 21; counterexample();
-        promise = 22; save();
-        promise = 23; restore();
-        promise = 24; count();
-        promise = 25; digest();
-        System.out.println(wrong == 0 ? "all answers are as due" : wrong + " answers are not as due");
-        if (wrong != 0) System.exit(1);
+        Tested.sentence("promise 1"); newObject();
+        Tested.sentence("promise 2"); reset();
+        Tested.sentence("promise 3"); setMove();
+        Tested.sentence("promise 4"); setFinal();
+        Tested.sentence("promise 5"); lie();
+        Tested.sentence("promise 6"); state();
+        Tested.sentence("promise 7"); distinguish();
+        Tested.sentence("promise 8"); leastStates();
+        Tested.sentence("promise 9"); accepts();
+        Tested.sentence("promise 10"); type();
+        Tested.sentence("promise 11"); clearText();
+        Tested.sentence("promise 12"); begin();
+        Tested.sentence("promise 13"); step();
+        Tested.sentence("promise 14"); learn();
+        Tested.sentence("promise 15"); ask();
+        Tested.sentence("promise 16"); word();
+        Tested.sentence("promise 17"); cell();
+        Tested.sentence("promise 18"); hypothesis();
+        Tested.sentence("promise 19"); guess();
+        Tested.sentence("promise 20"); difference();
+        Tested.sentence("promise 21"); counterexample();
+        Tested.sentence("promise 22"); save();
+        Tested.sentence("promise 23"); restore();
+        Tested.sentence("promise 24"); count();
+        Tested.sentence("promise 25"); digest();
+        Tested.end();
     }
 
     private static void due(String call, long got, long want) {
-        if (got != want) {
-            wrong++;
-            System.out.println("promise " + promise + ": " + call + " answered " + got + ", due is " + want);
-        }
+        Tested.due(call, got, want);
     }
 
-    /** The call returns this, and nothing changes. */
-    private static void still(TableLearner x, String call, int want, IntSupplier made) {
-        long before = x.digest();
-        due(call, made.getAsInt(), want);
-        due("digest() after " + call, x.digest(), before);
+    /** The last call of x answered this, and has changed nothing. */
+    private static void still(Tested x, long got, long want) {
+        Tested.still(x, got, want);
     }
 
-    private static void text(TableLearner x, String word) {
-        x.clearText();
-        for (char c : word.toCharArray()) {
-            due("type(" + c + ")", x.type(c) > 0 ? 1 : 0, 1);
-        }
+    private static void text(Tested x, String word) {
+        x.text(word);
     }
 
-    private static void steps(TableLearner x, int... due) {
-        for (int i = 0; i < due.length; i++) {
-            due("step() " + (i + 1) + " of " + due.length, x.step(), due[i]);
-        }
+    private static void steps(Tested x, int... due) {
+        x.steps(due);
     }
 
-    private static void isWord(TableLearner x, boolean suffix, int k, String word) {
-        due("length of word " + k, x.word(suffix, k, NONE), word.length());
-        for (int i = 0; i < word.length(); i++) {
-            due("letter " + i + " of word " + k, x.word(suffix, k, i), word.charAt(i) - 'a');
-        }
-        due("letter behind word " + k, x.word(suffix, k, word.length()), NONE);
+    private static void isWord(Tested x, boolean suffix, int k, String word) {
+        x.isWord(suffix, k, word);
     }
 
     /** The lines give each state's next states; the marks which states are final. */
-    private static TableLearner machine(int letters, String finals, int... moves) {
-        TableLearner x = new TableLearner();
+    private static Tested machine(int letters, String finals, int... moves) {
+        Tested x = new Tested();
         x.reset(finals.length(), letters);
         for (int s = 0; s < finals.length(); s++) {
             for (int a = 0; a < letters; a++) {
@@ -89,12 +69,12 @@ public final class PromiseTests {
     }
 
     /** Accepts the words in which aaa occurs. */
-    private static TableLearner threeAs() {
+    private static Tested threeAs() {
         return machine(2, "0001", 1, 0, 2, 0, 3, 0, 3, 3);
     }
 
     /** Accepts the words of one letter whose length is last modulo n. */
-    private static TableLearner cycle(int n, int last) {
+    private static Tested cycle(int n, int last) {
         int[] moves = new int[n];
         StringBuilder finals = new StringBuilder();
         for (int s = 0; s < n; s++) {
@@ -104,7 +84,7 @@ public final class PromiseTests {
         return machine(1, finals.toString(), moves);
     }
 
-    private static void lies(TableLearner x, String... words) {
+    private static void lies(Tested x, String... words) {
         for (String w : words) {
             text(x, w);
             due("lie() " + w, x.lie() > 0 ? 1 : 0, 1);
@@ -117,7 +97,7 @@ public final class PromiseTests {
     }
 
     private static void newObject() {
-        TableLearner x = new TableLearner();
+        Tested x = new Tested();
         int[] counts = {1, 2, 0, 0, 0, 200, 0, 1, 1, 0, 0, 0, 0};
         for (int what = 0; what < counts.length; what++) {
             due("count(" + what + ")", x.count(what), counts[what]);
@@ -133,18 +113,18 @@ public final class PromiseTests {
     }
 
     private static void reset() {
-        TableLearner x = threeAs();
+        Tested x = threeAs();
         lies(x, "a", "b");
         x.begin(1, 77);
         x.learn(5);
         x.save(0);
         int asked = x.count(6);
         text(x, "abc");
-        still(x, "reset(0, 2)", BAD, () -> x.reset(0, 2));
-        still(x, "reset(9, 2)", BAD, () -> x.reset(9, 2));
-        still(x, "reset(2, 0)", BAD, () -> x.reset(2, 0));
-        still(x, "reset(2, 4)", BAD, () -> x.reset(2, 4));
-        still(x, "reset(MIN, MAX)", BAD, () -> x.reset(MIN, MAX));
+        still(x, x.reset(0, 2), BAD);
+        still(x, x.reset(9, 2), BAD);
+        still(x, x.reset(2, 0), BAD);
+        still(x, x.reset(2, 4), BAD);
+        still(x, x.reset(MIN, MAX), BAD);
         due("reset(8, 3)", x.reset(8, 3), 8);
         int[] counts = {8, 3, 0, 0, 1, 77, 0, 1, 1, 0, 0, 0, 3};
         for (int what = 0; what < counts.length; what++) {
@@ -161,37 +141,37 @@ public final class PromiseTests {
     }
 
     private static void setMove() {
-        TableLearner x = new TableLearner();
+        Tested x = new Tested();
         x.reset(8, 3);
         due("setMove(7, 2, 7)", x.setMove(7, 2, 7), 0);
         due("setMove(7, 2, 3)", x.setMove(7, 2, 3), 7);
         due("state(7, 2)", x.state(7, 2), 3);
         due("state(7, 1)", x.state(7, 1), 0);
         x.learn(3);
-        still(x, "setMove(8, 0, 0)", BAD, () -> x.setMove(8, 0, 0));
-        still(x, "setMove(-1, 0, 0)", BAD, () -> x.setMove(-1, 0, 0));
-        still(x, "setMove(0, 3, 0)", BAD, () -> x.setMove(0, 3, 0));
-        still(x, "setMove(0, -1, 0)", BAD, () -> x.setMove(0, -1, 0));
-        still(x, "setMove(0, 0, 8)", BAD, () -> x.setMove(0, 0, 8));
-        still(x, "setMove(0, 0, -1)", BAD, () -> x.setMove(0, 0, -1));
-        still(x, "setMove(MIN, MAX, MIN)", BAD, () -> x.setMove(MIN, MAX, MIN));
+        still(x, x.setMove(8, 0, 0), BAD);
+        still(x, x.setMove(-1, 0, 0), BAD);
+        still(x, x.setMove(0, 3, 0), BAD);
+        still(x, x.setMove(0, -1, 0), BAD);
+        still(x, x.setMove(0, 0, 8), BAD);
+        still(x, x.setMove(0, 0, -1), BAD);
+        still(x, x.setMove(MIN, MAX, MIN), BAD);
         due("questions", x.count(6), 3);
         due("setMove to the same", x.setMove(7, 2, 3), 3);
         due("questions after setMove", x.count(6), 0);
     }
 
     private static void setFinal() {
-        TableLearner x = new TableLearner();
+        Tested x = new Tested();
         x.reset(3, 1);
         due("setFinal(2, true)", x.setFinal(2, true), 1);
         due("setFinal(0, true)", x.setFinal(0, true), 2);
         due("state(2, 3)", x.state(2, 3), 1);
         due("state(1, 3)", x.state(1, 3), 0);
         x.step();
-        still(x, "setFinal(2, true)", STATE, () -> x.setFinal(2, true));
-        still(x, "setFinal(1, false)", STATE, () -> x.setFinal(1, false));
-        still(x, "setFinal(3, true)", BAD, () -> x.setFinal(3, true));
-        still(x, "setFinal(-1, false)", BAD, () -> x.setFinal(-1, false));
+        still(x, x.setFinal(2, true), STATE);
+        still(x, x.setFinal(1, false), STATE);
+        still(x, x.setFinal(3, true), BAD);
+        still(x, x.setFinal(-1, false), BAD);
         due("questions", x.count(6), 1);
         due("setFinal(2, false)", x.setFinal(2, false), 1);
         due("questions after setFinal", x.count(6), 0);
@@ -199,7 +179,7 @@ public final class PromiseTests {
     }
 
     private static void lie() {
-        TableLearner x = new TableLearner();
+        Tested x = new Tested();
         due("lie() empty", x.lie(), 1);
         due("ask() empty", x.ask(), 1);
         due("accepts() empty", x.accepts(), 0);
@@ -214,11 +194,11 @@ public final class PromiseTests {
         text(x, "abbbbbbbbbbbbbbb");
         due("lie() of 16 letters", x.lie(), 4);
         text(x, "b");
-        still(x, "lie() too many", FULL, x::lie);
+        still(x, x.lie(), FULL);
         text(x, "c");
-        still(x, "lie() no letter", BAD, x::lie);
+        still(x, x.lie(), BAD);
         text(x, "A");
-        still(x, "lie() no letter", BAD, x::lie);
+        still(x, x.lie(), BAD);
         text(x, "ab");
         due("lie() out again", x.lie(), 3);
         due("ask() ab", x.ask(), 0);
@@ -228,7 +208,7 @@ public final class PromiseTests {
         due("ask() empty", x.ask(), 1);
         due("lie() out", x.lie(), 2);
         due("ask() empty", x.ask(), 0);
-        TableLearner y = new TableLearner();
+        Tested y = new Tested();
         y.setFinal(0, true);
         lies(y, "b");
         text(y, "b");
@@ -236,7 +216,7 @@ public final class PromiseTests {
     }
 
     private static void state() {
-        TableLearner x = machine(2, "0101", 1, 3, 1, 0, 0, 0, 3, 3);
+        Tested x = machine(2, "0101", 1, 3, 1, 0, 0, 0, 3, 3);
         int[][] due = {{1, 3, 0, 0}, {1, 0, 1, 1}, {0, 0, 0, NONE}, {3, 3, 1, 1}};
         int[] what = {0, 1, 3, 4};
         for (int s = 0; s < 4; s++) {
@@ -250,13 +230,13 @@ public final class PromiseTests {
         due("state(0, 5)", x.state(0, 5), BAD);
         due("state(0, -1)", x.state(0, -1), BAD);
         due("state(MAX, MAX)", x.state(MAX, MAX), BAD);
-        TableLearner far = cycle(8, 7);
+        Tested far = cycle(8, 7);
         due("state(7, 4)", far.state(7, 4), 7);
         due("state(7, 1) with one letter", far.state(7, 1), BAD);
     }
 
     private static void distinguish() {
-        TableLearner x = threeAs();
+        Tested x = threeAs();
         due("distinguish(0, 1, -1)", x.distinguish(0, 1, NONE), 2);
         due("distinguish(0, 1, 0)", x.distinguish(0, 1, 0), 0);
         due("distinguish(0, 1, 1)", x.distinguish(0, 1, 1), 0);
@@ -270,31 +250,31 @@ public final class PromiseTests {
         due("distinguish(0, 1, -2)", x.distinguish(0, 1, -2), BAD);
         due("distinguish(1, 1, -2)", x.distinguish(1, 1, -2), BAD);
         // ab and ba both tell 0 from 1; ab is the lesser one.
-        TableLearner y = machine(2, "000001", 2, 3, 4, 4, 4, 5, 5, 4, 4, 4, 4, 4);
+        Tested y = machine(2, "000001", 2, 3, 4, 4, 4, 5, 5, 4, 4, 4, 4, 4);
         due("distinguish(0, 1, -1)", y.distinguish(0, 1, NONE), 2);
         due("distinguish(0, 1, 0)", y.distinguish(0, 1, 0), 0);
         due("distinguish(0, 1, 1)", y.distinguish(0, 1, 1), 1);
         due("distinguish(1, 4, 0)", y.distinguish(1, 4, 0), NONE);
         // b is shorter than aa.
-        TableLearner z = machine(2, "0001", 1, 3, 3, 2, 2, 2, 2, 2);
+        Tested z = machine(2, "0001", 1, 3, 3, 2, 2, 2, 2, 2);
         due("distinguish(0, 2, -1)", z.distinguish(0, 2, NONE), 1);
         due("distinguish(0, 2, 0)", z.distinguish(0, 2, 0), 1);
     }
 
     private static void leastStates() {
-        due("a new machine", new TableLearner().leastStates(), 1);
+        due("a new machine", new Tested().leastStates(), 1);
         due("aaa", threeAs().leastStates(), 4);
         due("a cycle of 8", cycle(8, 7).leastStates(), 8);
         due("state 2 is not reached", machine(1, "001", 1, 0, 2).leastStates(), 1);
         due("states 1 and 2 are equal", machine(2, "011", 1, 2, 0, 0, 0, 0).leastStates(), 2);
         due("all are final", machine(1, "111", 1, 2, 0).leastStates(), 1);
-        TableLearner x = cycle(4, 3);
+        Tested x = cycle(4, 3);
         x.setFinal(1, true);
         due("a cycle that is its double", x.leastStates(), 2);
     }
 
     private static void accepts() {
-        TableLearner x = threeAs();
+        Tested x = threeAs();
         lies(x, "aaa");
         long before = x.digest();
         due("accepts() empty", x.accepts(), 0);
@@ -309,32 +289,32 @@ public final class PromiseTests {
         due("accepts() a lie", x.accepts(), 1);
         due("nothing was asked", x.count(6), 0);
         text(x, "aaac");
-        still(x, "accepts() with c", BAD, x::accepts);
+        still(x, x.accepts(), BAD);
         text(x, "`");
-        still(x, "accepts() with the byte before a", BAD, x::accepts);
+        still(x, x.accepts(), BAD);
         x.reset(1, 3);
         text(x, "cab");
         due("accepts() cab with three letters", x.accepts(), 0);
         text(x, "d");
-        still(x, "accepts() with d", BAD, x::accepts);
+        still(x, x.accepts(), BAD);
     }
 
     private static void type() {
-        TableLearner x = new TableLearner();
+        Tested x = new Tested();
         due("type(0)", x.type(0), 1);
         due("type(127)", x.type(127), 2);
-        still(x, "type(-1)", BAD, () -> x.type(-1));
-        still(x, "type(128)", BAD, () -> x.type(128));
-        still(x, "type(MIN)", BAD, () -> x.type(MIN));
+        still(x, x.type(-1), BAD);
+        still(x, x.type(128), BAD);
+        still(x, x.type(MIN), BAD);
         for (int n = 3; n <= 16; n++) {
             due("type(99)", x.type(99), n);
         }
-        still(x, "type(97) at 16", FULL, () -> x.type(97));
-        still(x, "type(128) at 16", BAD, () -> x.type(128));
+        still(x, x.type(97), FULL);
+        still(x, x.type(128), BAD);
     }
 
     private static void clearText() {
-        TableLearner x = new TableLearner();
+        Tested x = new Tested();
         due("clearText() at first", x.clearText(), 0);
         text(x, "aaaabbbbaaaabbbb");
         due("clearText()", x.clearText(), 16);
@@ -346,16 +326,16 @@ public final class PromiseTests {
     }
 
     private static void begin() {
-        TableLearner x = threeAs();
+        Tested x = threeAs();
         due("begin(1, 300)", x.begin(1, 300), 0);
         due("begin(2, 200)", x.begin(2, 200), 1);
         lies(x, "ab");
         due("mode after lie()", x.count(4), 2);
         due("learn", x.learn(1000), 7);
-        still(x, "begin(3, 0)", BAD, () -> x.begin(3, 0));
-        still(x, "begin(-1, 0)", BAD, () -> x.begin(-1, 0));
-        still(x, "begin(0, -1)", BAD, () -> x.begin(0, -1));
-        still(x, "begin(0, 301)", BAD, () -> x.begin(0, 301));
+        still(x, x.begin(3, 0), BAD);
+        still(x, x.begin(-1, 0), BAD);
+        still(x, x.begin(0, -1), BAD);
+        still(x, x.begin(0, 301), BAD);
         due("begin(0, 0)", x.begin(0, 0), 2);
         int[] counts = {4, 2, 1, 1, 0, 0, 0, 1, 1, 0, 0, 0, 0};
         for (int what = 0; what < counts.length; what++) {
@@ -376,7 +356,7 @@ public final class PromiseTests {
     }
 
     private static void stepOrder() {
-        TableLearner x = threeAs();
+        Tested x = threeAs();
         steps(x, 1, 1, 1, 4, 5);
         due("prefixes", x.count(7), 4);
         isWord(x, false, 1, "a");
@@ -394,7 +374,7 @@ public final class PromiseTests {
         steps(x, 3);
         isWord(x, true, 1, "a");
         due("the old hypothesis is kept", x.count(9), 1);
-        TableLearner y = new TableLearner();
+        Tested y = new Tested();
         y.reset(1, 2);
         lies(y, "b");
         steps(y, 1, 1, 1, 2);
@@ -402,14 +382,14 @@ public final class PromiseTests {
     }
 
     private static void stepModes() {
-        TableLearner x = threeAs();
+        Tested x = threeAs();
         x.begin(1, 200);
         steps(x, 1, 1, 1, 4, 5);
         due("questions in mode 1", x.count(6), 5);
         due("prefixes in mode 1", x.count(7), 1);
         due("suffixes in mode 1", x.count(8), 2);
         isWord(x, true, 1, "aa");
-        TableLearner y = threeAs();
+        Tested y = threeAs();
         y.begin(2, 200);
         steps(y, 1, 1, 1, 4, 5);
         due("questions in mode 2", y.count(6), 3);
@@ -421,17 +401,17 @@ public final class PromiseTests {
     }
 
     private static void stepOut() {
-        TableLearner x = threeAs();
+        Tested x = threeAs();
         x.begin(1, 3);
         steps(x, 1, 1, 1, 4);
-        still(x, "step() at question(0)", OUT, x::step);
+        still(x, x.step(), OUT);
         x.begin(1, 4);
         steps(x, 1, 1, 1, 4, OUT);
         due("question(0) remains asked", x.count(6), 4);
         due("nothing else", x.count(8), 1);
         due("no correction", x.count(10), 0);
         due("no counterexample", x.counterexample(NONE), STATE);
-        still(x, "step() at question(1)", OUT, x::step);
+        still(x, x.step(), OUT);
         text(x, "aaa");
         due("ask() what was question(0)", x.ask(), 1);
         text(x, "aa");
@@ -449,20 +429,20 @@ public final class PromiseTests {
 
     private static void stepLies() {
         for (int mode = 0; mode <= 2; mode++) {
-            TableLearner x = new TableLearner();
+            Tested x = new Tested();
             x.begin(mode, 200);
             lies(x, "");
             steps(x, 1, 1, 1, 2, 1, 1, 4, 7);
             due("noticed in mode " + mode, x.count(11), 1);
             due("corrections in mode " + mode, x.count(10), 1);
             due("counterexample in mode " + mode, x.counterexample(NONE), 0);
-            still(x, "step() after 7 in mode " + mode, 7, x::step);
+            still(x, x.step(), 7);
             text(x, "bbb");
             due("ask() after 7", x.ask(), 0);
             due("questions", x.count(6), 6);
             steps(x, 7, 7);
         }
-        TableLearner y = new TableLearner();
+        Tested y = new Tested();
         lies(y, "a");
         steps(y, 1, 1, 1, 2, 1, 1, 4, 7, 7);
         y.begin(1, 200);
@@ -476,35 +456,35 @@ public final class PromiseTests {
     }
 
     private static void stepFull() {
-        TableLearner closing = cycle(6, 5);
+        Tested closing = cycle(6, 5);
         lies(closing, as(10), as(7), as(2));
         fullAt(closing, 2);
-        TableLearner separating = cycle(6, 5);
+        Tested separating = cycle(6, 5);
         lies(separating, as(11), as(9));
         fullAt(separating, 0);
-        TableLearner beginnings = cycle(8, 7);
+        Tested beginnings = cycle(8, 7);
         lies(beginnings, as(14));
         fullAt(beginnings, 0);
-        TableLearner ends = machine(1, "000001", 1, 2, 3, 4, 5, 5);
+        Tested ends = machine(1, "000001", 1, 2, 3, 4, 5, 5);
         lies(ends, as(8), as(9));
         fullAt(ends, 2);
-        TableLearner suffixes = machine(2, "00000001", 1, 2, 2, 3, 3, 4, 4, 5, 5, 6, 6, 7, 7, 0, 0, 1);
+        Tested suffixes = machine(2, "00000001", 1, 2, 2, 3, 3, 4, 4, 5, 5, 6, 6, 7, 7, 0, 0, 1);
         lies(suffixes, "abbbbbbab");
         fullAt(suffixes, 2);
     }
 
-    private static void fullAt(TableLearner x, int mode) {
+    private static void fullAt(Tested x, int mode) {
         x.begin(mode, 300);
         due("learn(1000) in mode " + mode, x.learn(1000), FULL);
-        still(x, "step() after FULL", FULL, x::step);
-        still(x, "learn(3) after FULL", FULL, () -> x.learn(3));
+        still(x, x.step(), FULL);
+        still(x, x.learn(3), FULL);
     }
 
     private static void learn() {
-        TableLearner x = threeAs();
-        still(x, "learn(0)", BAD, () -> x.learn(0));
-        still(x, "learn(1001)", BAD, () -> x.learn(1001));
-        still(x, "learn(-1)", BAD, () -> x.learn(-1));
+        Tested x = threeAs();
+        still(x, x.learn(0), BAD);
+        still(x, x.learn(1001), BAD);
+        still(x, x.learn(-1), BAD);
         due("learn(1)", x.learn(1), 1);
         due("count(6)", x.count(6), 1);
         due("learn(3)", x.learn(3), 4);
@@ -521,7 +501,7 @@ public final class PromiseTests {
     }
 
     private static void ask() {
-        TableLearner x = threeAs();
+        Tested x = threeAs();
         lies(x, "ab");
         x.begin(0, 2);
         text(x, "ab");
@@ -532,24 +512,15 @@ public final class PromiseTests {
         text(x, "baaabbbbbbbbbbbb");
         due("ask() of 16 letters", x.ask(), 1);
         text(x, "a");
-        still(x, "ask() beyond the budget", OUT, x::ask);
+        still(x, x.ask(), OUT);
         text(x, "ac");
-        still(x, "ask() with c", BAD, x::ask);
+        still(x, x.ask(), BAD);
         text(x, "ab");
-        still(x, "ask() a known word", 1, x::ask);
-        TableLearner y = threeAs();
-        y.begin(0, 300);
-        for (int n = 0; n < 300; n++) {
-            text(y, Integer.toBinaryString(512 + n).replace('0', 'a').replace('1', 'b'));
-            due("ask() number " + n, y.ask() >= 0 ? 1 : 0, 1);
-        }
-        due("questions", y.count(6), 300);
-        text(y, "a");
-        due("ask() number 301", y.ask(), OUT);
+        still(x, x.ask(), 1);
     }
 
     private static void word() {
-        TableLearner x = threeAs();
+        Tested x = threeAs();
         x.begin(2, 200);
         x.learn(1000);
         isWord(x, false, 0, "");
@@ -564,13 +535,13 @@ public final class PromiseTests {
         due("word(false, 1, MIN)", x.word(false, 1, MIN), BAD);
         due("word(false, 1, MAX)", x.word(false, 1, MAX), NONE);
         due("word(false, MAX, 0)", x.word(false, MAX, 0), BAD);
-        TableLearner y = machine(3, "0001", 1, 0, 0, 0, 2, 0, 0, 0, 3, 3, 3, 3);
+        Tested y = machine(3, "0001", 1, 0, 0, 0, 2, 0, 0, 0, 3, 3, 3, 3);
         steps(y, 1, 1, 1, 1, 4, 5);
         isWord(y, false, 3, "abc");
     }
 
     private static void cell() {
-        TableLearner x = threeAs();
+        Tested x = threeAs();
         due("cell(0, -1, 0)", x.cell(0, NONE, 0), NONE);
         text(x, "b");
         x.ask();
@@ -596,7 +567,7 @@ public final class PromiseTests {
     }
 
     private static void hypothesis() {
-        TableLearner x = threeAs();
+        Tested x = threeAs();
         due("hypothesis(0, 0) without one", x.hypothesis(0, 0), STATE);
         due("hypothesis(9, 4) without one", x.hypothesis(9, 4), STATE);
         due("hypothesis(0, 2) without one", x.hypothesis(0, 2), BAD);
@@ -625,7 +596,7 @@ public final class PromiseTests {
 
     /** Here are more prefixes than states, so that a state's number is not its prefix's. */
     private static void representatives() {
-        TableLearner x = machine(2, "10000001", 1, 4, 2, 5, 3, 6, 0, 7, 5, 0, 6, 1, 7, 2, 4, 3);
+        Tested x = machine(2, "10000001", 1, 4, 2, 5, 3, 6, 0, 7, 5, 0, 6, 1, 7, 2, 4, 3);
         x.begin(0, 300);
         due("learn", x.learn(1000), 6);
         int states = 0;
@@ -648,7 +619,7 @@ public final class PromiseTests {
 
     /** What the digest does not tell of a slot: the representatives and the room that is left. */
     private static void restoreUnseen() {
-        TableLearner x = machine(2, "10000001", 1, 4, 2, 5, 3, 6, 0, 7, 5, 0, 6, 1, 7, 2, 4, 3);
+        Tested x = machine(2, "10000001", 1, 4, 2, 5, 3, 6, 0, 7, 5, 0, 6, 1, 7, 2, 4, 3);
         x.begin(0, 300);
         x.learn(1000);
         int[] kept = new int[x.count(9)];
@@ -662,7 +633,7 @@ public final class PromiseTests {
         for (int s = 0; s < kept.length; s++) {
             due("restored representative of state " + s, x.hypothesis(s, 4), kept[s]);
         }
-        TableLearner y = cycle(8, 7);
+        Tested y = cycle(8, 7);
         lies(y, as(14));
         y.begin(0, 300);
         due("learn", y.learn(1000), FULL);
@@ -673,7 +644,7 @@ public final class PromiseTests {
         due("no room is there again", y.step(), FULL);
     }
 
-    private static boolean sameRow(TableLearner x, int p, int q) {
+    private static boolean sameRow(Tested x, int p, int q) {
         for (int s = 0; s < x.count(8); s++) {
             if (x.cell(p, NONE, s) != x.cell(q, NONE, s)) {
                 return false;
@@ -683,16 +654,16 @@ public final class PromiseTests {
     }
 
     private static void guess() {
-        TableLearner x = threeAs();
+        Tested x = threeAs();
         due("guess() without one", x.guess(), STATE);
         text(x, "c");
         due("guess() with c, without one", x.guess(), BAD);
         x.learn(4);
         due("guess() with c", x.guess(), BAD);
         text(x, "aaa");
-        still(x, "guess() aaa, too early", 0, x::guess);
+        still(x, x.guess(), 0);
         due("guess() is no step", x.learn(1000), 6);
-        still(x, "guess() aaa", 1, x::guess);
+        still(x, x.guess(), 1);
         text(x, "aabaabaabaabaaba");
         due("guess() of 16 letters", x.guess(), 0);
         text(x, "baaabbbbbbbbbbbb");
@@ -702,11 +673,11 @@ public final class PromiseTests {
     }
 
     private static void difference() {
-        TableLearner x = threeAs();
+        Tested x = threeAs();
         due("difference(-1) without one", x.difference(NONE), STATE);
         due("difference(-2) without one", x.difference(-2), BAD);
         x.learn(4);
-        still(x, "difference(-1)", 3, () -> x.difference(NONE));
+        still(x, x.difference(NONE), 3);
         due("difference(0)", x.difference(0), 0);
         due("difference(2)", x.difference(2), 0);
         due("difference(3)", x.difference(3), NONE);
@@ -717,12 +688,12 @@ public final class PromiseTests {
         x.learn(1000);
         due("difference(-1) at the end", x.difference(NONE), NONE);
         due("difference(0) at the end", x.difference(0), NONE);
-        TableLearner y = machine(3, "0001", 1, 0, 0, 0, 2, 0, 0, 0, 3, 3, 3, 3);
+        Tested y = machine(3, "0001", 1, 0, 0, 0, 2, 0, 0, 0, 3, 3, 3, 3);
         y.learn(5);
         for (int i = 0; i < 3; i++) {
             due("letter of abc", y.difference(i), i);
         }
-        TableLearner z = new TableLearner();
+        Tested z = new Tested();
         lies(z, "");
         z.learn(7);
         due("difference(-1), the empty word", z.difference(NONE), 0);
@@ -730,7 +701,7 @@ public final class PromiseTests {
     }
 
     private static void counterexample() {
-        TableLearner x = machine(3, "0001", 1, 0, 0, 0, 2, 0, 0, 0, 3, 3, 3, 3);
+        Tested x = machine(3, "0001", 1, 0, 0, 0, 2, 0, 0, 0, 3, 3, 3, 3);
         x.learn(5);
         due("counterexample(-1) at first", x.counterexample(NONE), STATE);
         due("counterexample(-2) at first", x.counterexample(-2), BAD);
@@ -744,7 +715,7 @@ public final class PromiseTests {
         due("counterexample(-2)", x.counterexample(-2), BAD);
         x.learn(1000);
         due("counterexample(-1) at the end", x.counterexample(NONE), 3);
-        TableLearner y = new TableLearner();
+        Tested y = new Tested();
         lies(y, "b");
         due("learn", y.learn(1000), 7);
         due("counterexample(-1) of 7", y.counterexample(NONE), 1);
@@ -754,7 +725,7 @@ public final class PromiseTests {
         y.lie();
         due("counterexample(-1) anew", y.counterexample(NONE), STATE);
         // A step that is OUT leaves the one before.
-        TableLearner z = threeAs();
+        Tested z = threeAs();
         z.begin(1, 300);
         due("learn", z.learn(1000), 6);
         int all = z.count(6);
@@ -769,13 +740,15 @@ public final class PromiseTests {
     }
 
     private static void save() {
-        TableLearner x = threeAs();
-        still(x, "save(2)", BAD, () -> x.save(2));
-        still(x, "save(-1)", BAD, () -> x.save(-1));
+        Tested x = threeAs();
+        still(x, x.save(2), BAD);
+        still(x, x.save(-1), BAD);
         due("restore(0)", x.restore(0), STATE);
         due("restore(1)", x.restore(1), STATE);
         x.learn(3);
-        still(x, "save(0)", 3, () -> x.save(0));
+        long before = x.digest();
+        due("save(0)", x.save(0), 3);
+        due("digest() after save(0)", x.digest(), before);
         due("restore(1)", x.restore(1), STATE);
         x.learn(1000);
         due("save(1)", x.save(1), 19);
@@ -787,7 +760,7 @@ public final class PromiseTests {
 
     private static void restore() {
         restoreUnseen();
-        TableLearner x = threeAs();
+        Tested x = threeAs();
         lies(x, "bbb", "ab");
         x.begin(2, 111);
         due("learn", x.learn(1000), 7);
@@ -798,9 +771,9 @@ public final class PromiseTests {
         for (int s = 0; s < kept.length; s++) {
             kept[s] = new int[] {x.hypothesis(s, 0), x.hypothesis(s, 1), x.hypothesis(s, 3), x.hypothesis(s, 4)};
         }
-        still(x, "restore(0)", STATE, () -> x.restore(0));
-        still(x, "restore(2)", BAD, () -> x.restore(2));
-        still(x, "restore(-1)", BAD, () -> x.restore(-1));
+        still(x, x.restore(0), STATE);
+        still(x, x.restore(2), BAD);
+        still(x, x.restore(-1), BAD);
         x.reset(8, 3);
         x.begin(0, 300);
         x.learn(1000);
@@ -822,7 +795,7 @@ public final class PromiseTests {
         due("restore(1) again", x.restore(1), asked);
         due("digest()", x.digest(), end);
         // Where the learner goes on is restored too.
-        TableLearner y = threeAs();
+        Tested y = threeAs();
         y.learn(3);
         y.save(0);
         steps(y, 4, 5);
@@ -837,7 +810,7 @@ public final class PromiseTests {
     }
 
     private static void count() {
-        TableLearner x = threeAs();
+        Tested x = threeAs();
         lies(x, "bbbbbbbbbbb");
         x.begin(1, 123);
         due("learn", x.learn(1000), 6);
@@ -853,55 +826,32 @@ public final class PromiseTests {
     }
 
     private static void digest() {
-        TableLearner x = threeAs();
-        due("digest() at first", x.digest(), folded(x, ""));
-        text(x, "aab");
-        for (int mode = 0; mode <= 2; mode++) {
-            x.begin(mode, 100);
-            for (int i = 0; i < 45; i++) {
-                x.step();
-                due("digest() in mode " + mode, x.digest(), folded(x, "aab"));
-            }
-        }
-        x.reset(2, 1);
-        due("digest()", x.digest(), folded(x, "aab"));
-        TableLearner y = new TableLearner();
-        lies(y, "");
-        due("learn", y.learn(1000), 7);
-        due("digest() with an empty counterexample", y.digest(), folded(y, ""));
-        due("digest() of a new object", new TableLearner().digest(), folded(new TableLearner(), ""));
+        // What the digest is made of is tested in LookEdges; here, that each part of it counts.
+        Tested x = threeAs();
+        Tested y = threeAs();
+        due("digest() of the same", x.digest(), y.digest());
+        x.type(97);
+        y.type(98);
+        differ("the text", x, y);
+        x.clearText();
+        y.clearText();
+        due("digest() of the same", x.digest(), y.digest());
+        y.begin(1, 200);
+        differ("the mode", x, y);
+        y.begin(0, 200);
+        x.step();
+        differ("an answer", x, y);
+        x.begin(0, 200);
+        y.setMove(3, 1, 2);
+        differ("a move", x, y);
+        x.setMove(3, 1, 2);
+        due("digest() of the same", x.digest(), y.digest());
+        x.learn(1000);
+        y.learn(1000);
+        due("digest() of the same", x.digest(), y.digest());
     }
 
-    /** The digest, from what the other calls return. */
-    private static long folded(TableLearner x, String text) {
-        long h = 59;
-        for (int what = 0; what <= 12; what++) h = 31 * h + x.count(what);
-        int letters = x.count(1);
-        for (int s = 0; s < x.count(0); s++) {
-            for (int a = 0; a < letters; a++) h = 31 * h + x.state(s, a);
-            h = 31 * h + x.state(s, 3);
-        }
-        h = 31 * h + x.leastStates();
-        for (int p = 0; p < x.count(7); p++) {
-            h = 31 * h + x.word(false, p, NONE);
-            for (int i = 0; i < x.word(false, p, NONE); i++) h = 31 * h + x.word(false, p, i);
-            for (int s = 0; s < x.count(8); s++) h = 31 * h + x.cell(p, NONE, s);
-        }
-        for (int p = 0; p < x.count(7); p++) {
-            for (int a = 0; a < letters; a++) {
-                for (int s = 0; s < x.count(8); s++) h = 31 * h + x.cell(p, a, s);
-            }
-        }
-        for (int k = 0; k < x.count(8); k++) {
-            h = 31 * h + x.word(true, k, NONE);
-            for (int i = 0; i < x.word(true, k, NONE); i++) h = 31 * h + x.word(true, k, i);
-        }
-        for (int s = 0; s < x.count(9); s++) {
-            for (int a = 0; a < letters; a++) h = 31 * h + x.hypothesis(s, a);
-            h = 31 * h + x.hypothesis(s, 3);
-        }
-        for (int i = 0; i < x.counterexample(NONE); i++) h = 31 * h + x.counterexample(i);
-        for (char c : text.toCharArray()) h = 31 * h + c;
-        return h;
+    private static void differ(String what, Tested x, Tested y) {
+        due("digest() with another of " + what, x.digest() == y.digest() ? 1 : 0, 0);
     }
 }

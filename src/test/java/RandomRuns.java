@@ -6,7 +6,9 @@ import java.util.TreeMap;
 /** Random runs of calls, the same ones each time, on TableLearner and on the Model. */
 public final class RandomRuns {
     private static final int RUNS = Integer.getInteger("runs", 3000);
-    private static final int CALLS = 512;
+
+    /** An object is used for at most 512 calls; a part of a run may make some 15 beyond these. */
+    private static final int CALLS = 496;
 
     /** What the runs must have met, so that they cannot become empty unnoticed. */
     private static final List<String> DUE = List.of(
@@ -80,6 +82,10 @@ public final class RandomRuns {
                 case 6: begin(); break;
                 default: learnOn(); break;
             }
+        }
+        if (calls > 512) {
+            wrong++;
+            System.out.println("run " + number + " made " + calls + " calls");
         }
     }
 
