@@ -9,6 +9,8 @@ public final class TableEdges {
         prefixesByClosing();
         prefixesByBeginnings();
         suffixesByEnds();
+        suffixesBySeparating();
+        suffixesBySplitting();
         lettersByClosing();
         lettersBySeparating();
         lettersByBeginnings();
@@ -120,6 +122,50 @@ public final class TableEdges {
         letters(y, 13);
         full(y, "suffixes, 5 in mode 2");
         due(y.count(8), 14);
+    }
+
+    /** A 17th cannot come up here: NOTES.md tells why. */
+    private static void suffixesBySeparating() {
+        Tested.sentence("13, step 3: the 16th suffix is allowed");
+        Tested x = Tested.machine(2, "110110", "13", "45", "01", "40", "42", "33")
+                .lies("abaabbb", "aabaaaabab", "babbbbbab", "abbabbabba");
+        x.begin(0, 300);
+        goOnTo(x, 15);
+        boolean separated = false;
+        for (int i = 0; i < 100 && x.count(8) < 16; i++) {
+            separated = x.step() == 3;
+        }
+        Tested.due("the 16th suffix came by step 3", separated ? 1 : 0, 1);
+        sixteen(x);
+    }
+
+    private static void suffixesBySplitting() {
+        Tested.sentence("13, mode 1: the 16th suffix is allowed");
+        Tested x = Tested.machine(2, "00001100", "15", "14", "00", "71", "33", "40", "23", "61")
+                .lies("bbaa", "babaaaaba", "aaabaabba", "baaaaabba");
+        x.begin(1, 300);
+        upTo(x, 278);
+        x.steps(4);
+        due(x.count(8), 15);
+        x.steps(5);
+        sixteen(x);
+    }
+
+    /** Goes on, some steps at a time, while there are fewer suffixes. */
+    private static void goOnTo(Tested x, int suffixes) {
+        for (int i = 0; i < 100 && x.count(8) < suffixes; i++) {
+            x.learn(4);
+        }
+        due(x.count(8), suffixes);
+    }
+
+    private static void sixteen(Tested x) {
+        due(x.count(8), 16);
+        due(x.word(true, 15, NONE) > 0 ? 1 : 0, 1);
+        due(x.word(true, 16, NONE), Tested.BAD);
+        due(x.cell(0, NONE, 15) == Tested.BAD ? 1 : 0, 0);
+        due(x.cell(0, NONE, 16), Tested.BAD);
+        x.steps(1);
     }
 
     private static void lettersByClosing() {
