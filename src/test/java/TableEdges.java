@@ -311,12 +311,50 @@ public final class TableEdges {
         return x;
     }
 
+    /** The next step asks first the counterexample, aaabaaaaa, and then a word of 16 letters. */
+    private static Tested sixteenLetters(int budget) {
+        Tested x = Tested.machine(2, "11011111", "13", "43", "45", "16", "76", "02", "12", "25")
+                .lies("bbbaabaaa", "bababba", "baabaabba", "bbbbaaaaa");
+        x.begin(1, budget);
+        upTo(x, 160);
+        x.steps(4);
+        due(x.difference(NONE), 9);
+        return x;
+    }
+
+    /** The next step asks the counterexample, which has 16 letters and was not asked. */
+    private static Tested sixteenLetterExample(int budget) {
+        Tested x = Tested.machine(2, "10111110", "60", "61", "54", "37", "63", "26", "65", "01")
+                .lies("ababbbbbabbb", "ababbbbbbbb", "baaabbaa", "ba");
+        x.begin(1, budget);
+        upTo(x, 81);
+        x.steps(4);
+        due(x.difference(NONE), 16);
+        return x;
+    }
+
     private static void longestQuestion() {
         Tested.sentence("13: a question of 16 letters is asked");
-        Tested x = Tested.cycle(8, 0).lies(Tested.as(11), Tested.as(12), Tested.as(16));
-        x.begin(1, 17);
-        upTo(x, 17);
-        x.steps(4, 7);
+        String longest = "bbbaabaaaabaaaaa";
+        Tested x = sixteenLetters(162);
+        x.steps(5);
+        due(x.count(6), 162);
+        x.text(longest);
+        due(x.ask() >= 0 ? 1 : 0, 1);
+        due(x.count(6), 162);
+        Tested.sentence("13: it is OUT if it is not possible, and the one before it remains asked");
+        Tested v = sixteenLetters(161);
+        Tested.stillButAsked(v, v.step(), OUT, "aaabaaaaa");
+        due(v.count(6), 161);
+        v.text(longest);
+        Tested.still(v, v.ask(), OUT);
+        Tested.sentence("13: a counterexample of 16 letters is asked, or OUT");
+        Tested u = sixteenLetterExample(82);
+        full(u, "letters, 5 in mode 1", "ababbbbbbbababbb");
+        due(u.count(6), 82);
+        Tested t = sixteenLetterExample(81);
+        Tested.still(t, t.step(), OUT);
+        due(t.count(6), 81);
         Tested.sentence("13: one of 17 letters is FULL, and the questions before it remain asked");
         Tested y = longQuestion(300);
         int state = y.hypothesis(y.hypothesis(y.hypothesis(0, 0), 0), 1);
